@@ -5,8 +5,11 @@ public final class RandomTest {
     private static final Random RANDOM = new Random(20261115);
 
     public static void main(String[] args) {
-        for (int n = 0; n < 400; n++) {
+        for (int n = 0; n < 600; n++) {
             compare(n, n % 40 == 0 ? 6 : 4);
+        }
+        for (int n = 0; n < 60; n++) {
+            compareCounters(n);
         }
         Check.finish();
     }
@@ -18,8 +21,22 @@ public final class RandomTest {
     private static Plan plan(int inputs, int outputs, int mostLatches) {
         boolean binary = RANDOM.nextBoolean();
         int ands = RANDOM.nextInt(10) == 0 ? 150 : upTo(30);
-        Plan plan = Plan.random(RANDOM, inputs, upTo(mostLatches), outputs, ands, binary);
-        return plan;
+        return Plan.random(RANDOM, inputs, upTo(mostLatches), outputs, ands, binary);
+    }
+
+    /** They go deep, and most of them tell late or never. */
+    private static void compareCounters(int n) {
+        int inputs = upTo(2);
+        int bits = 1 + upTo(4);
+        int last = RANDOM.nextInt(1 << bits);
+        int told = RANDOM.nextInt(1 << bits);
+        Plan first = Builder.counter(bits, inputs, last, told);
+        Plan second = n % 2 == 0 ? first.renamed(RANDOM)
+            : Builder.counter(Math.max(1, bits - upTo(1)), inputs, RANDOM.nextInt(32), n % 3 == 0 ? told : RANDOM.nextInt(32));
+        if (n % 4 == 0) {
+            second.change(RANDOM);
+        }
+        compareAll("counters " + n + ": ", new Model(first, second));
     }
 
     private static void compare(int n, int mostLatches) {
@@ -30,16 +47,28 @@ public final class RandomTest {
         for (int k = n % 4; k > 1 && second.nexts.length + second.outputs.length + second.ands.length > 0; k--) {
             second.change(RANDOM);
         }
-        TwinJudge x = new TwinJudge();
-        String run = "circuits " + n + ": ";
-        Check.due(run + "load(0)", Check.load(x, 0, first.file()), first.ands.length);
-        Check.due(run + "load(1)", Check.load(x, 1, second.file()), second.ands.length);
-        Model model = new Model(first, second);
+        compareAll("circuits " + n + ": ", new Model(first, second));
+    }
+
+    private static void compareAll(String run, Model model) {
+        // An object is used for at most 512 calls.
+        TwinJudge x = loaded(run, model);
         compareJudgement(run, x, model);
-        comparePairs(run, x, model);
-        compareTwins(run, x, model);
         comparePlay(run, x, model);
         Check.due(run + "doubts()", x.doubts(), 0);
+        TwinJudge y = loaded(run, model);
+        comparePairs(run, y, model);
+        compareTwins(run, y, model);
+        Check.due(run + "doubts()", y.doubts(), 0);
+    }
+
+    private static TwinJudge loaded(String run, Model model) {
+        TwinJudge x = new TwinJudge();
+        for (int c = 0; c < 2; c++) {
+            Plan plan = model.plans[c];
+            Check.due(run + "load(" + c + ")", Check.load(x, c, plan.file()), plan.ands.length);
+        }
+        return x;
     }
 
     private static void compareJudgement(String run, TwinJudge x, Model model) {
@@ -65,25 +94,24 @@ public final class RandomTest {
     private static void comparePairs(String run, TwinJudge x, Model model) {
         Check.due(run + "pairs(0)", x.pairs(0), model.depths.size());
         Check.due(run + "pairs(1)", x.pairs(1), model.greatestDepth());
-        for (int s = 0; s < 1 << x.many(0, 2); s++) {
-            for (int t = 0; t < 1 << x.many(1, 2); t++) {
-                int due = model.depths.getOrDefault(s + 64 * t, -1);
-                Check.due(run + "depth(" + s + ", " + t + ")", x.depth(s, t), due);
-            }
+        for (int n = 0; n < 60; n++) {
+            int s = RANDOM.nextInt(1 << model.plans[0].latches.length);
+            int t = RANDOM.nextInt(1 << model.plans[1].latches.length);
+            int due = model.depths.getOrDefault(s + 64 * t, -1);
+            Check.due(run + "depth(" + s + ", " + t + ")", x.depth(s, t), due);
         }
     }
 
     private static void compareTwins(String run, TwinJudge x, Model model) {
         int[][] twins = model.twins();
-        for (int c = 0; c < 2; c++) {
-            for (int literal = 0; literal < twins[c].length; literal++) {
-                int circuit = c;
-                int asked = literal;
-                if (twins[c][literal] == -1) {
-                    Check.throwing(run + "twin", () -> x.twin(circuit, asked), Check.ARGUMENT);
-                } else {
-                    Check.due(run + "twin(" + c + ", " + literal + ")", x.twin(c, literal), twins[c][literal]);
-                }
+        for (int n = 0; n < 60; n++) {
+            int c = upTo(1);
+            int literal = RANDOM.nextInt(twins[c].length);
+            String call = run + "twin(" + c + ", " + literal + ")";
+            if (twins[c][literal] == -1) {
+                Check.throwing(call, () -> x.twin(c, literal), Check.ARGUMENT);
+            } else {
+                Check.due(call, x.twin(c, literal), twins[c][literal]);
             }
         }
         for (int k = 0; k < 40; k++) {

@@ -76,9 +76,17 @@ final class Check {
     }
 
     static TwinJudge both(String first, String second) {
+        return both(bytes(first), bytes(second));
+    }
+
+    static TwinJudge both(Plan first, Plan second) {
+        return both(first.file(), second.file());
+    }
+
+    private static TwinJudge both(byte[] first, byte[] second) {
         TwinJudge x = new TwinJudge();
-        due("load(0)", load(x, 0, first) >= 0, true);
-        due("load(1)", load(x, 1, second) >= 0, true);
+        due("load(0) finds no fault", load(x, 0, first) >= 0, true);
+        due("load(1) finds no fault", load(x, 1, second) >= 0, true);
         return x;
     }
 }
