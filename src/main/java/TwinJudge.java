@@ -290,7 +290,6 @@ public final class TwinJudge {
         final int[] nameLengths = new int[MOST_NAMES];
 
         void clear() {
-            present = false;
             Arrays.fill(kinds, (byte) UNDEFINED);
             Arrays.fill(nameLengths, 0);
         }
@@ -361,7 +360,7 @@ public final class TwinJudge {
         /** The circuit that is read next: only a file without a fault takes another one's place. */
         private Circuit fresh = new Circuit();
         private final int[] header = new int[5];
-        /** The literals that must be defined somewhere, as they stand in the file. */
+        /** The literals, as they stand in the file, whose variables must be defined somewhere. */
         private final int[] uses = new int[MOST_USES];
         private final int[] usePlaces = new int[MOST_USES];
         private int useCount;
@@ -371,12 +370,10 @@ public final class TwinJudge {
         private int number;
         private int start;
         int code;
-        int place;
+        int place = NONE;
 
         Reader(Tape tape) {
             this.tape = tape;
-            code = 0;
-            place = NONE;
         }
 
         void forgetFault() {
@@ -493,11 +490,10 @@ public final class TwinJudge {
         }
 
         private boolean readUse() {
-            return readNumber() && isInRange() && keepUse(number);
-        }
-
-        private boolean keepUse(int literal) {
-            uses[useCount] = literal;
+            if (!readNumber() || !isInRange()) {
+                return false;
+            }
+            uses[useCount] = number;
             usePlaces[useCount] = start;
             useCount++;
             return true;
@@ -607,6 +603,7 @@ public final class TwinJudge {
             return true;
         }
 
+        /** All variables of a binary file are defined: its operands need no second look. */
         private boolean readDeltas() {
             for (int k = 0; k < fresh.ands; k++) {
                 int v = sorter.byFile[k];
@@ -617,7 +614,6 @@ public final class TwinJudge {
                     return fail(TOO_HIGH, start);
                 }
                 fresh.left[v] = 2 * v - number;
-                keepUse(fresh.left[v]);
                 if (!readDelta()) {
                     return false;
                 }
@@ -625,7 +621,6 @@ public final class TwinJudge {
                     return fail(TOO_HIGH, start);
                 }
                 fresh.right[v] = fresh.left[v] - number;
-                keepUse(fresh.right[v]);
             }
             return true;
         }
@@ -785,7 +780,7 @@ public final class TwinJudge {
         int look(int c, int literal, int x) {
             takeVector(x);
             circuits[c].settle(states[c], inputWords, row, 0);
-            return bitOf(literal);
+            return Circuit.word(row, 0, literal) & 1;
         }
 
         /** The outputs of circuit 0, and 256 times those of circuit 1; the latches move on. */
@@ -811,13 +806,9 @@ public final class TwinJudge {
         private int gather(int[] literals, int count) {
             int bits = 0;
             for (int k = 0; k < count; k++) {
-                bits |= bitOf(literals[k]) << k;
+                bits |= (Circuit.word(row, 0, literals[k]) & 1) << k;
             }
             return bits;
-        }
-
-        private int bitOf(int literal) {
-            return Circuit.word(row, 0, literal) & 1;
         }
     }
 

@@ -245,6 +245,7 @@ public final class FaultTest {
         due("aag 4 1 0 0 3\n2\n8 7 2\n4 6 2\n6 8 2\n", 6, 3);
         due("aag 5 1 0 0 4\n2\n10 9 2\n8 2 10\n6 4 2\n4 2 7\n", 6, 2);
         due("aag 5 0 0 0 5\n2 4 4\n4 6 6\n6 8 8\n8 10 10\n10 5 5\n", 6, 2);
+        due("aag 5 0 0 0 4\n2 10 10\n10 4 4\n4 6 6\n6 6 6\n", 6, 3);
         // A latch's next may hang on the latch.
         fine("aag 2 0 1 0 1\n2 4\n4 2 3\n");
         due("aag 150 0 0 0 150\n" + chain(150), 6, 150);

@@ -26,6 +26,11 @@ public final class JudgeTest {
 
     private static void notMatching() {
         dueNoMatch("none: ", new TwinJudge());
+        for (int c = 0; c < 2; c++) {
+            TwinJudge lone = new TwinJudge();
+            Check.load(lone, c, "aag 0 0 0 0 0\n");
+            dueNoMatch("an empty one alone: ", lone);
+        }
         TwinJudge x = new TwinJudge();
         Check.load(x, 1, "aag 1 1 0 1 0\n2\n2\n");
         dueNoMatch("one: ", x);

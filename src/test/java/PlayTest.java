@@ -74,6 +74,11 @@ public final class PlayTest {
             Check.due("value(" + c + ", 0, 0)", x.value(c, 0, 0), -1);
             Check.due("value(" + c + ", 2, 0)", x.value(c, 2, 0), -1);
         }
+        Check.load(x, 1, "aag 200 1 0 0 0\n400\n");
+        Check.due("value(1, 400, 1)", x.value(1, 400, 1), 1);
+        Check.due("value(1, 401, 1)", x.value(1, 401, 1), 0);
+        Check.due("value(1, 402, 1)", x.value(1, 402, 1), -1);
+        Check.due("value(1, 403, 1)", x.value(1, 403, 1), -1);
         Check.load(x, 1, "aag 0 0 0 0 0\n");
         Check.due("value(1, 0, 7)", x.value(1, 0, 7), 0);
         Check.due("value(1, 1, 7)", x.value(1, 1, 7), 1);

@@ -7,6 +7,7 @@ public final class SameTest {
         ordinary();
         exceptions();
         eachPairAndVector();
+        onlyPairsThatComeUp();
         Check.finish();
     }
 
@@ -111,6 +112,29 @@ public final class SameTest {
         // Beside a circuit without latches.
         Check.load(x, 0, "aag 5 5 0 0 0\n2\n4\n6\n8\n10\n");
         dueTwin(x, 1, last, 1000 + last);
+        Check.due("doubts()", x.doubts(), 0);
+    }
+
+    /** All 4096 pairs come up; then, behind a load, just one of them. */
+    private static void onlyPairsThatComeUp() {
+        String shift = "14 2\n4 14\n6 4\n8 6\n10 8\n12 10\n";
+        TwinJudge x = Check.both("aag 8 2 6 0 0\n2\n16\n" + shift, "aag 8 2 6 0 0\n16\n2\n" + shift);
+        dueTwin(x, 0, 12, 12);
+        dueTwin(x, 1, 2, 16);
+        dueTwin(x, 1, 12, 1012);
+        dueSame(x, 0, 12, 1, 12, false);
+        dueSame(x, 0, 2, 1, 16, true);
+        String still = "14 14\n4 4\n6 6\n8 8\n10 10\n12 12\n";
+        Check.load(x, 0, "aag 8 2 6 0 0\n2\n16\n" + still);
+        Check.load(x, 1, "aag 8 2 6 0 0\n2\n16\n" + still);
+        Check.due("pairs(0)", x.pairs(0), 1);
+        for (int literal = 4; literal <= 14; literal += 2) {
+            dueTwin(x, 0, literal, 0);
+            dueTwin(x, 1, literal, 0);
+            dueSame(x, 0, literal, 1, 0, true);
+            dueSame(x, 0, literal, 1, 18 - literal, true);
+        }
+        dueTwin(x, 1, 2, 2);
         Check.due("doubts()", x.doubts(), 0);
     }
 }

@@ -38,7 +38,34 @@ public final class SymbolTest {
         dueName(x, 0, 0, 0, "");
         dueName(x, 0, 1, 0, "ll");
         dueName(x, 0, 2, 0, "q");
+        allNames();
         Check.finish();
+    }
+
+    /** As many names, and as long ones, as there can be. */
+    private static void allNames() {
+        StringBuilder file = new StringBuilder("aag 11 5 6 8 0\n2\n4\n6\n8\n10\n");
+        file.append("12 0\n14 0\n16 0\n18 0\n20 0\n22 0\n").append("0\n".repeat(8));
+        int[] sizes = {5, 6, 8};
+        for (int kind = 2; kind >= 0; kind--) {
+            for (int k = 0; k < sizes[kind]; k++) {
+                file.append("ilo".charAt(kind)).append(k).append(' ').append(longName(kind, k)).append('\n');
+            }
+        }
+        TwinJudge x = new TwinJudge();
+        Check.load(x, 1, file.toString());
+        for (int kind = 0; kind < 3; kind++) {
+            for (int k = 0; k < sizes[kind]; k++) {
+                Check.due("first byte", x.symbol(1, kind, k, 0), longName(kind, k).charAt(0));
+                Check.due("last byte", x.symbol(1, kind, k, 39), longName(kind, k).charAt(39));
+                Check.due("behind it", x.symbol(1, kind, k, 40), -1);
+            }
+            Check.due("none such", x.symbol(1, kind, sizes[kind], 0), -1);
+        }
+    }
+
+    private static String longName(int kind, int k) {
+        return String.valueOf((char) ('A' + 10 * kind + k)).repeat(40);
     }
 
     private static void dueName(TwinJudge x, int c, int kind, int k, String name) {
