@@ -159,7 +159,8 @@ public final class TwinJudge {
     public int differs(int n) throws IllegalStateException, IllegalArgumentException {
         mustMatch();
         must(n >= 1 && n <= MOST_DIFFERS);
-        return exploredWorks().lengthWithin(n);
+        int length = exploredWorks().walk.length;
+        return length <= n ? length : 0;
     }
 
     public boolean inductive(int k) throws IllegalStateException, IllegalArgumentException {
@@ -812,40 +813,43 @@ public final class TwinJudge {
         }
     }
 
-    /** What both circuits do in each of their states, by each vector. */
+    /**
+     * What both circuits do in each of their states, by each vector. A word has bit x for vector
+     * x; with fewer than five inputs the bits behind the last vector repeat those ahead, so that
+     * words can be compared whole.
+     */
     private static final class Table {
-        /** The words of the variables, a row for each state, with bit x for vector x. */
+        /** A line for each state of circuit 0, then of circuit 1: the words of its variables. */
         private final int[] words = new int[CIRCUITS * STATES * ROW];
+        private final int[] outputWords = new int[CIRCUITS * STATES * MOST_OUTPUTS];
         private final int[] nexts = new int[CIRCUITS * STATES * VECTORS];
-        private final int[] outputs = new int[CIRCUITS * STATES * VECTORS];
         private final int[] states = new int[CIRCUITS];
+        private int outputs;
         int vectors;
 
         void fill(Circuit[] circuits) {
             vectors = 1 << circuits[0].inputs;
+            outputs = circuits[0].outputs;
             Arrays.fill(nexts, 0);
-            Arrays.fill(outputs, 0);
             for (int c = 0; c < CIRCUITS; c++) {
                 states[c] = 1 << circuits[c].latches;
                 for (int s = 0; s < states[c]; s++) {
-                    fillState(circuits[c], c * STATES + s, s);
+                    fillLine(circuits[c], c * STATES + s, s);
                 }
             }
         }
 
-        private void fillState(Circuit circuit, int line, int s) {
+        private void fillLine(Circuit circuit, int line, int s) {
             circuit.settle(s, ALL_VECTORS, words, line * ROW);
+            for (int k = 0; k < outputs; k++) {
+                outputWords[line * MOST_OUTPUTS + k] =
+                    Circuit.word(words, line * ROW, circuit.outputLiterals[k]);
+            }
             for (int k = 0; k < circuit.latches; k++) {
-                spread(Circuit.word(words, line * ROW, circuit.nexts[k]), nexts, line, k);
-            }
-            for (int k = 0; k < circuit.outputs; k++) {
-                spread(Circuit.word(words, line * ROW, circuit.outputLiterals[k]), outputs, line, k);
-            }
-        }
-
-        private void spread(int word, int[] into, int line, int k) {
-            for (int x = 0; x < vectors; x++) {
-                into[line * VECTORS + x] |= ((word >> x) & 1) << k;
+                int word = Circuit.word(words, line * ROW, circuit.nexts[k]);
+                for (int x = 0; x < vectors; x++) {
+                    nexts[line * VECTORS + x] |= ((word >> x) & 1) << k;
+                }
             }
         }
 
@@ -859,17 +863,31 @@ public final class TwinJudge {
             return nexts[first * VECTORS + x] * STATES + nexts[second * VECTORS + x];
         }
 
-        /** The outputs that are not as the other circuit's, as bits. */
-        int unlike(int pair, int x) {
+        /** The vectors by which output k is not as the other circuit's. */
+        int unlike(int pair, int k) {
             int first = pair / STATES;
             int second = STATES + pair % STATES;
-            return outputs[first * VECTORS + x] ^ outputs[second * VECTORS + x];
+            return outputWords[first * MOST_OUTPUTS + k] ^ outputWords[second * MOST_OUTPUTS + k];
         }
 
-        /**
-         * What a literal is at a pair, by all vectors. With fewer than five inputs the bits
-         * behind the last vector repeat those ahead, so that words can be compared whole.
-         */
+        /** The vectors by which the pair tells. */
+        int telling(int pair) {
+            int telling = 0;
+            for (int k = 0; k < outputs; k++) {
+                telling |= unlike(pair, k);
+            }
+            return telling;
+        }
+
+        /** The lowest output that tells, by a vector that does. */
+        int lowestUnlike(int pair, int x) {
+            int k = 0;
+            while (k < outputs - 1 && ((unlike(pair, k) >> x) & 1) == 0) {
+                k++;
+            }
+            return k;
+        }
+
         int word(int pair, int c, int literal) {
             int line = c == 0 ? pair / STATES : STATES + pair % STATES;
             return Circuit.word(words, line * ROW, literal);
@@ -922,14 +940,13 @@ public final class TwinJudge {
         }
 
         private void tryToTell(int pair) {
-            for (int x = 0; x < table.vectors && length == 0; x++) {
-                int unlike = table.unlike(pair, x);
-                if (unlike != 0) {
-                    blamed = Integer.numberOfTrailingZeros(unlike);
-                    length = depths[pair] + 1;
-                    vectors[length - 1] = x;
-                    traceBack(pair);
-                }
+            int telling = table.telling(pair);
+            if (telling != 0) {
+                int x = Integer.numberOfTrailingZeros(telling);
+                blamed = table.lowestUnlike(pair, x);
+                length = depths[pair] + 1;
+                vectors[length - 1] = x;
+                traceBack(pair);
             }
         }
 
@@ -958,6 +975,8 @@ public final class TwinJudge {
         private int known;
         private int firstEmpty;
         private int firstWithReset;
+        /** All layers behind the latest one are as it is. */
+        private boolean isSteady;
 
         Layers(Table table) {
             this.table = table;
@@ -967,36 +986,35 @@ public final class TwinJudge {
             known = 0;
             firstEmpty = NONE;
             firstWithReset = NONE;
+            isSteady = false;
         }
 
         boolean isEmpty(int layer) {
-            extend(layer);
-            return firstEmpty != NONE && firstEmpty <= layer;
-        }
-
-        /** The LENGTH, if it is at most n; 0 if it is not. */
-        int lengthWithin(int n) {
-            extend(n - 1);
-            return firstWithReset != NONE && firstWithReset < n ? firstWithReset + 1 : 0;
-        }
-
-        private void extend(int layer) {
-            // Behind an empty layer all are empty.
-            while (known <= layer && firstEmpty == NONE) {
+            while (known <= layer && !isSteady) {
                 addLayer();
                 known++;
             }
+            return firstEmpty != NONE && firstEmpty <= layer;
+        }
+
+        /** Whether a LENGTH, found in another way, fits the layers that are known. */
+        boolean fits(int length) {
+            int due = length >= 1 && length <= known ? length - 1 : NONE;
+            return firstWithReset == due;
         }
 
         private void addLayer() {
             boolean empty = true;
+            boolean changed = known == 0;
             for (int pair = 0; pair < PAIRS; pair++) {
                 spare[pair] = table.isPair(pair) && isInLayer(pair);
                 empty = empty && !spare[pair];
+                changed = changed || spare[pair] != latest[pair];
             }
             boolean[] added = spare;
             spare = latest;
             latest = added;
+            isSteady = empty || !changed;
             if (empty) {
                 firstEmpty = known;
             }
@@ -1006,9 +1024,12 @@ public final class TwinJudge {
         }
 
         private boolean isInLayer(int pair) {
+            int telling = table.telling(pair);
+            if (known == 0) {
+                return telling != 0;
+            }
             for (int x = 0; x < table.vectors; x++) {
-                boolean tells = table.unlike(pair, x) != 0;
-                if (known == 0 ? tells : !tells && latest[table.next(pair, x)]) {
+                if (((telling >> x) & 1) == 0 && latest[table.next(pair, x)]) {
                     return true;
                 }
             }
@@ -1018,7 +1039,8 @@ public final class TwinJudge {
 
     /**
      * The variables of both circuits in classes: those of a class are always the same, or always
-     * the negation of one another. A variable's SPOT is c * ROW + v; the constant has spot 0.
+     * the negation of one another. A variable's SPOT is c * ROW + v; the constant has spot 0. A
+     * class's leader is its lowest spot.
      */
     private static final class Likeness {
         private static final int SPOTS = CIRCUITS * ROW;
@@ -1028,33 +1050,43 @@ public final class TwinJudge {
         private final int[] words = new int[SPOTS];
         /** Behind a leader, the one that this pair has split off its class next. */
         private final int[] splits = new int[SPOTS];
+        private final int[] sizes = new int[SPOTS];
+        /** The spots, from the lowest on, that are not alone in their class. */
+        private final int[] open = new int[SPOTS];
+        private int openCount;
 
         void sort(Circuit[] circuits, Table table, Walk walk) {
-            for (int c = 0; c < CIRCUITS; c++) {
-                for (int v = 0; v < ROW; v++) {
-                    leaders[c * ROW + v] = 0;
-                    flips[c * ROW + v] = -(table.word(0, c, 2 * v) & 1);
+            openCount = 0;
+            for (int spot = 0; spot < SPOTS; spot++) {
+                leaders[spot] = 0;
+                flips[spot] = 0;
+                if (circuits[spot / ROW].isDefined(2 * (spot % ROW))) {
+                    flips[spot] = -(table.word(0, spot / ROW, 2 * (spot % ROW)) & 1);
+                    open[openCount] = spot;
+                    openCount++;
                 }
             }
             for (int i = 0; i < walk.count; i++) {
-                splitAll(circuits, table, walk.queue[i]);
-            }
-        }
-
-        private void splitAll(Circuit[] circuits, Table table, int pair) {
-            for (int c = 0; c < CIRCUITS; c++) {
-                for (int v = 0; v <= circuits[c].variables; v++) {
-                    if (circuits[c].isDefined(2 * v)) {
-                        int spot = c * ROW + v;
-                        words[spot] = table.word(pair, c, 2 * v) ^ flips[spot];
-                        placeSpot(spot);
-                    }
+                if (isSplitBy(table, walk.queue[i])) {
+                    leaveLone();
                 }
             }
         }
 
-        /** A leader is its class's lowest spot, so that it has come ahead of the others. */
-        private void placeSpot(int spot) {
+        private boolean isSplitBy(Table table, int pair) {
+            boolean split = false;
+            for (int i = 0; i < openCount; i++) {
+                int spot = open[i];
+                int before = leaders[spot];
+                words[spot] = table.word(pair, spot / ROW, 2 * (spot % ROW)) ^ flips[spot];
+                findLeader(spot);
+                split = split || leaders[spot] != before;
+            }
+            return split;
+        }
+
+        /** The leader, and those that were split off it, are lower: their words are there. */
+        private void findLeader(int spot) {
             splits[spot] = NONE;
             int leader = leaders[spot];
             int last = leader;
@@ -1067,6 +1099,21 @@ public final class TwinJudge {
                 leader = spot;
             }
             leaders[spot] = leader;
+        }
+
+        private void leaveLone() {
+            Arrays.fill(sizes, 0);
+            for (int i = 0; i < openCount; i++) {
+                sizes[leaders[open[i]]]++;
+            }
+            int kept = 0;
+            for (int i = 0; i < openCount; i++) {
+                if (sizes[leaders[open[i]]] > 1) {
+                    open[kept] = open[i];
+                    kept++;
+                }
+            }
+            openCount = kept;
         }
 
         /** The first literal of the class that is the same, as twin() tells it. */
@@ -1190,14 +1237,9 @@ public final class TwinJudge {
             return true;
         }
 
-        int lengthWithin(int n) {
-            int within = walk.length <= n ? walk.length : 0;
-            doubtUnless(layers.lengthWithin(n) == within);
-            return within;
-        }
-
         boolean holdsByInduction(int k) {
             boolean holds = layers.isEmpty(k);
+            doubtUnless(layers.fits(walk.length));
             // A WITNESS of more than k vectors ends in what INDUCTIVE for k rules out.
             doubtUnless(!holds || walk.length <= k);
             return holds;

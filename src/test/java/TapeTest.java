@@ -6,6 +6,7 @@ public final class TapeTest {
         refusals();
         zerosBehindEnd();
         fullTape();
+        readyBytesOutliveLoad();
         Check.finish();
     }
 
@@ -89,5 +90,16 @@ public final class TapeTest {
         Check.due("end(0) when full", x.end(0), 6000);
         Check.due("load(0) of 6000 bytes", x.load(0), 0);
         Check.due("end(20) behind it", x.end(20), 20);
+    }
+
+    /** Only an end() that answers a number makes them 0. */
+    private static void readyBytesOutliveLoad() {
+        TwinJudge x = new TwinJudge();
+        Check.put(x, Check.bytes("aag 0 0 0 0 0\n"));
+        x.feed(0x61616720, 0x30203020, 0x30203020, 0x300A0000, 0);
+        Check.due("load(0)", x.load(0), 0);
+        x.reset();
+        Check.due("end(14)", x.end(14), 14);
+        Check.due("load(1) of the bytes that were ready", x.load(1), 0);
     }
 }
