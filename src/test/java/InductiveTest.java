@@ -7,6 +7,7 @@ public final class InductiveTest {
         vectorsCount();
         tellingPairsAreLeft();
         pairsThatDoNotComeUp();
+        anewBehindLoad();
         exceptions();
         Check.finish();
     }
@@ -75,6 +76,24 @@ public final class InductiveTest {
         Check.due("inductive(8) behind a load", x.inductive(8), true);
         Check.load(x, 0, Builder.counter(4, 0, 14, 15).file());
         Check.due("inductive(1)", x.inductive(1), false);
+    }
+
+    /** The same circuit once more: what was found for it before must not be taken for a later layer. */
+    private static void anewBehindLoad() {
+        TwinJudge x = new TwinJudge();
+        Check.load(x, 0, row(2).file());
+        Check.load(x, 1, ZERO);
+        for (int most = 0; most <= 2; most++) {
+            Check.load(x, 0, row(2).file());
+            Check.due("inductive(" + most + ")", x.inductive(most), most == 2);
+            Check.load(x, 0, row(2).file());
+            Check.due("inductive(1)", x.inductive(1), false);
+            Check.due("inductive(2)", x.inductive(2), true);
+        }
+        Check.load(x, 0, row(1).file());
+        Check.due("inductive(0)", x.inductive(0), false);
+        Check.load(x, 0, row(1).file());
+        Check.due("inductive(1)", x.inductive(1), true);
     }
 
     private static void exceptions() {
