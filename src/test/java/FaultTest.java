@@ -20,21 +20,8 @@ public final class FaultTest {
         Check.finish();
     }
 
-    private static String shown(String file) {
-        StringBuilder text = new StringBuilder();
-        for (char c : file.toCharArray()) {
-            text.append(c < 32 || c > 126 ? "\\x" + Integer.toHexString(c) : String.valueOf(c));
-        }
-        return text.toString();
-    }
-
     private static void due(String file, int fault, int place) {
-        TwinJudge x = new TwinJudge();
-        int ands = Check.load(x, 1, file);
-        Check.due(shown(file) + ": it is refused", ands == -1, fault != 0);
-        Check.due(shown(file) + ": fault(0)", x.fault(0), fault);
-        Check.due(shown(file) + ": fault(1)", x.fault(1), place);
-        Check.due(shown(file) + ": many(1, 0) is there", x.many(1, 0) != -1, fault == 0);
+        Check.fault(file, fault, place);
     }
 
     private static void fine(String file) {
