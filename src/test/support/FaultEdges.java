@@ -109,6 +109,15 @@ final class FaultEdges {
                     Check.fine(file);
                 }
             }
+            // What a longer file had behind it does not count.
+            for (String whole : new String[] {TEXT + "i0 ab\nc\n", BINARY + "i0 ab\nc\n"}) {
+                for (int n : new int[] {0, 1, 13, 14, 17, 19, whole.length() - 4, whole.length() - 3, whole.length() - 1}) {
+                    TwinJudge x = Check.one(whole);
+                    Check.due("load(0) of " + n + " bytes", Check.load(x, 0, whole.substring(0, n)), -1);
+                    Check.due("fault(0) of " + n + " bytes", x.fault(0), 1);
+                    Check.due("fault(1) of " + n + " bytes", x.fault(1), n);
+                }
+            }
             String wide = BINARY.replace("\1\3", "\201\200\0\203\200\0");
             for (int n = 0; n < wide.length(); n++) {
                 Check.fault(wide.substring(0, n), 1, n);

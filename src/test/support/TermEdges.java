@@ -375,7 +375,7 @@ final class TermEdges {
     }
 
     /**
-     * An and of each two of 5 inputs and 6 latches, and one of each of these, negated, and input 0. In
+     * An and of each two of 5 inputs and 6 latches, and one of each of these and input 0. In
      * two such circuits the 10 of the inputs and the 10 on them are the same, the 45 and 45 others not.
      */
     private static Plan webbed() {
@@ -387,7 +387,7 @@ final class TermEdges {
         b.next(0, 0, 0, 0, 0, 0);
         for (int k = 0; k < 11; k++) {
             for (int j = 0; j < k; j++) {
-                b.and(signals[0], b.and(signals[j], signals[k]) ^ 1);
+                b.and(signals[0], b.and(signals[j], signals[k]));
             }
         }
         return b.plan();
@@ -491,7 +491,9 @@ final class TermEdges {
             TwinJudge late = Check.both("aag 2 1 1 1 0\n2\n4 1\n4\n", ZERO);
             Check.due("judge()", late.judge(), 2);
             Check.due("inductive(1)", late.inductive(1), false);
+            Check.due("doubts()", late.doubts(), 0);
             Check.due("inductive(2)", late.inductive(2), true);
+            Check.due("doubts()", late.doubts(), 0);
             // Pairs of any latches of both: two that hold, which tell if they are not the same.
             TwinJudge unlike = Check.both("aag 2 1 1 1 0\n2\n4 4\n4\n", "aag 2 1 1 1 0\n2\n4 4\n4\n");
             Check.due("inductive(0)", unlike.inductive(0), false);
