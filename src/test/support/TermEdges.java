@@ -494,6 +494,13 @@ final class TermEdges {
             Check.due("doubts()", late.doubts(), 0);
             Check.due("inductive(2)", late.inductive(2), true);
             Check.due("doubts()", late.doubts(), 0);
+            // Of 4096 pairs one half tells at once, the other half in a step, and none later: latch 0 turns over.
+            String six = "4 4\n6 6\n8 8\n10 10\n12 12\n";
+            TwinJudge turns = Check.both("aag 6 0 6 1 0\n2 3\n" + six + "2\n", "aag 6 0 6 1 0\n2 2\n" + six + "0\n");
+            Check.due("inductive(2)", turns.inductive(2), true);
+            Check.due("inductive(1)", turns.inductive(1), false);
+            Check.due("inductive(0)", turns.inductive(0), false);
+            Check.due("judge()", turns.judge(), 2);
             // Pairs of any latches of both: two that hold, which tell if they are not the same.
             TwinJudge unlike = Check.both("aag 2 1 1 1 0\n2\n4 4\n4\n", "aag 2 1 1 1 0\n2\n4 4\n4\n");
             Check.due("inductive(0)", unlike.inductive(0), false);
