@@ -44,7 +44,7 @@ public final class RandomTest {
         int outputs = RANDOM.nextInt(8) == 0 ? 8 : upTo(2);
         Plan first = plan(inputs, outputs, mostLatches);
         Plan second = n % 4 == 0 ? plan(inputs, outputs, mostLatches) : first.renamed(RANDOM);
-        for (int k = n % 4; k > 1 && second.nexts.length + second.outputs.length + second.ands.length > 0; k--) {
+        for (int k = n % 4; k > 1; k--) {
             second.change(RANDOM);
         }
         compareAll("circuits " + n + ": ", new Model(first, second));

@@ -1,12 +1,13 @@
 import java.util.ArrayDeque;
 import java.util.ArrayList;
+import java.util.Arrays;
 import java.util.HashMap;
 import java.util.HashSet;
 import java.util.List;
 import java.util.Map;
 import java.util.Set;
 
-/** The document's fault of a file, with its place, found by a reader that gives up by exception. */
+/** What the document says of a file, found by a reader that gives up by exception. */
 final class FileModel {
     private static final class Stop extends RuntimeException {
         final int code;
@@ -17,6 +18,13 @@ final class FileModel {
             this.place = place;
         }
     }
+
+    /** The fault and its place: 0 and -1 without one. */
+    int code = 0;
+    int place = -1;
+    /** The circuit, and its names behind kind and number ("0.3"), if there is no fault. */
+    final Plan plan = new Plan();
+    final Map<String, byte[]> names = new HashMap<>();
 
     private final byte[] file;
     private int at = 0;
@@ -31,14 +39,15 @@ final class FileModel {
         this.file = file;
     }
 
-    /** The fault and its place: 0 and -1 without one. */
-    static int[] fault(byte[] file) {
+    static FileModel of(byte[] file) {
+        FileModel model = new FileModel(file);
         try {
-            new FileModel(file).read();
-            return new int[] {0, -1};
+            model.read();
         } catch (Stop stop) {
-            return new int[] {stop.code, stop.place};
+            model.code = stop.code;
+            model.place = stop.place;
         }
+        return model;
     }
 
     private int here() {
@@ -135,6 +144,12 @@ final class FileModel {
             throw new Stop(2, at);
         }
         most = sizes[0];
+        plan.variables = most;
+        plan.inputs = new int[sizes[1]];
+        plan.latches = new int[sizes[2]];
+        plan.nexts = new int[sizes[2]];
+        plan.outputs = new int[sizes[3]];
+        plan.ands = new int[sizes[4]][];
         if (binary) {
             binaryBody(sizes);
         } else {
@@ -155,19 +170,16 @@ final class FileModel {
 
     private void textBody(int[] sizes) {
         for (int k = 0; k < sizes[1]; k++) {
-            definition();
+            plan.inputs[k] = definition();
             expect("\n");
         }
         for (int k = 0; k < sizes[2]; k++) {
-            definition();
+            plan.latches[k] = definition();
             expect(" ");
-            used();
+            plan.nexts[k] = used();
             expect("\n");
         }
-        for (int k = 0; k < sizes[3]; k++) {
-            used();
-            expect("\n");
-        }
+        outputs();
         for (int k = 0; k < sizes[4]; k++) {
             int v = definition();
             expect(" ");
@@ -176,6 +188,14 @@ final class FileModel {
             int b = used();
             expect("\n");
             operands.put(v, new int[] {a / 2, b / 2});
+            plan.ands[k] = new int[] {v, a, b};
+        }
+    }
+
+    private void outputs() {
+        for (int k = 0; k < plan.outputs.length; k++) {
+            plan.outputs[k] = used();
+            expect("\n");
         }
     }
 
@@ -183,24 +203,30 @@ final class FileModel {
         for (int v = 1; v <= most; v++) {
             defined.add(v);
         }
-        for (int k = 0; k < sizes[2] + sizes[3]; k++) {
-            used();
+        for (int k = 0; k < sizes[1]; k++) {
+            plan.inputs[k] = 1 + k;
+        }
+        for (int k = 0; k < sizes[2]; k++) {
+            plan.latches[k] = sizes[1] + 1 + k;
+            plan.nexts[k] = used();
             expect("\n");
         }
+        outputs();
         for (int k = 0; k < sizes[4]; k++) {
             int own = 2 * (sizes[1] + sizes[2] + 1 + k);
             int first = delta();
             if (first == 0 || first > own) {
                 throw new Stop(3, start);
             }
-            if (delta() > own - first) {
+            int second = delta();
+            if (second > own - first) {
                 throw new Stop(3, start);
             }
+            plan.ands[k] = new int[] {own / 2, own - first, own - first - second};
         }
     }
 
     private void symbols(int[] sizes) {
-        Set<String> named = new HashSet<>();
         while (at < file.length) {
             int kind = "ilo".indexOf(here());
             if (here() == 'c') {
@@ -212,7 +238,7 @@ final class FileModel {
             }
             at++;
             int k = number();
-            if (k >= sizes[1 + kind] || !named.add(kind + "." + k)) {
+            if (k >= sizes[1 + kind] || names.containsKey(kind + "." + k)) {
                 throw new Stop(1, at);
             }
             expect(" ");
@@ -226,6 +252,7 @@ final class FileModel {
             if (at == first) {
                 throw new Stop(1, at);
             }
+            names.put(kind + "." + k, Arrays.copyOfRange(file, first, at));
             at++;
         }
     }

@@ -112,9 +112,13 @@ final class Plan {
         return others;
     }
 
-    /** One literal somewhere is negated. */
+    /** One literal somewhere is negated, if there is one. */
     void change(Random random) {
-        int where = random.nextInt(nexts.length + outputs.length + ands.length);
+        int places = nexts.length + outputs.length + ands.length;
+        if (places == 0) {
+            return;
+        }
+        int where = random.nextInt(places);
         if (where < nexts.length) {
             nexts[where] ^= 1;
         } else if (where < nexts.length + outputs.length) {
